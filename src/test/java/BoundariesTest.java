@@ -1,6 +1,7 @@
 /**
  * The boundary cases: for each sentence of the document that names one, a test of its own, under the
- * sentence's words. All answers are worked out by hand; why they are due is said where it is not plain.
+ * sentence's words. The answers are worked out by hand, with the reason where it is not plain; what a refused
+ * call or an exchange leaves is compared with another object that was made so.
  */
 public final class BoundariesTest {
     private static final int BAD = -1000000;
